@@ -1,0 +1,82 @@
+import java.nio.charset.StandardCharsets;
+import java.util.NoSuchElementException;
+
+/** What the project's tests share: counting what is due, expecting exceptions, telling a text to a mint. */
+final class Check {
+    interface Call {
+        long run();
+    }
+
+    private static int passed = 0;
+    private static int failed = 0;
+
+    private Check() {
+    }
+
+    static void due(String what, long got, long want) {
+        if (got == want) {
+            passed++;
+        } else {
+            failed++;
+            System.out.println(what + " answered " + got + ", due is " + want);
+        }
+    }
+
+    static void due(String what, boolean got, boolean want) {
+        due(what, got ? 1 : 0, want ? 1 : 0);
+    }
+
+    static void noSuch(String what, Call call) {
+        throwsJust(what, call, NoSuchElementException.class);
+    }
+
+    static void illegal(String what, Call call) {
+        throwsJust(what, call, IllegalArgumentException.class);
+    }
+
+    private static void throwsJust(String what, Call call, Class<?> due) {
+        try {
+            long got = call.run();
+            failed++;
+            System.out.println(what + " answered " + got + ", due is " + due.getSimpleName());
+        } catch (RuntimeException e) {
+            if (e.getClass() == due) {
+                passed++;
+            } else {
+                failed++;
+                System.out.println(what + " threw " + e + ", due is " + due.getSimpleName());
+            }
+        }
+    }
+
+    /** Feeds the text and mints it: what mint() answers. */
+    static int tell(NamedCoins mint, String text) {
+        feedText(mint, text);
+        return mint.mint(text.length());
+    }
+
+    static void feedText(NamedCoins mint, String text) {
+        byte[] bytes = text.getBytes(StandardCharsets.ISO_8859_1);
+        for (int from = 0; from < bytes.length; from += 20) {
+            int[] five = new int[5];
+            for (int i = 0; i < 20; i++) {
+                int sign = from + i < bytes.length ? bytes[from + i] & 255 : ' ';
+                five[i / 4] = five[i / 4] << 8 | sign;
+            }
+            mint.feed(five[0], five[1], five[2], five[3], five[4]);
+        }
+    }
+
+    static NamedCoins told(String text) {
+        NamedCoins mint = new NamedCoins();
+        due("mint of " + text, tell(mint, text), 0);
+        return mint;
+    }
+
+    static void end(String name) {
+        System.out.println(name + ": " + passed + " answers as due, " + failed + " not");
+        if (failed != 0) {
+            System.exit(1);
+        }
+    }
+}
