@@ -29,22 +29,40 @@ public final class NamedCoins {
     private static final int REFUSED_ACTS = 1;
     private static final int REFUSED_SIGHTS = 2;
 
-    private final byte[] tape = new byte[MOST_BYTES];
-    private final Memory memory = new Memory();
-    private final Memory keptImage = new Memory();
-    private final World now = memory.world;
-    private final World run = new World();
-    private final Rules rules = new Rules();
-    private final Rules freshRules = new Rules();
-    private final Reader reader = new Reader(new Tokens(tape), run, freshRules);
-    private final Course course = new Course(now, run, rules);
-    private final Guess guess = new Guess(memory, run, rules);
-    private final Play play = new Play(now, run, rules);
+    private final byte[] tape;
+    private final Memory memory;
+    private final Memory keptImage;
+    private final World now;
+    /** The world in which a call tries what would come; nothing in it outlives the call. */
+    private final World run;
+    private final Rules rules;
+    private final Rules freshRules;
+    private final Reader reader;
+    private final Course course;
+    private final Guess guess;
+    private final Play play;
     private int fed = 0;
     private int faultPlace = NONE;
     private boolean hasImage = false;
 
+    /** All rows are made here, so that no call makes any. */
     public NamedCoins() {
+        byte[] bytes = new byte[MOST_BYTES];
+        Memory present = new Memory();
+        World trial = new World();
+        Rules told = new Rules();
+        Rules fresh = new Rules();
+        tape = bytes;
+        memory = present;
+        keptImage = new Memory();
+        now = present.world;
+        run = trial;
+        rules = told;
+        freshRules = fresh;
+        reader = new Reader(new Tokens(bytes), trial, fresh);
+        course = new Course(present.world, trial, told);
+        guess = new Guess(present, trial, told);
+        play = new Play(present.world, trial, told);
     }
 
     public int feed(int a, int b, int c, int d, int e) {
@@ -938,8 +956,9 @@ public final class NamedCoins {
             fault = 0;
             place = NONE;
             tokens.open(n);
-            for (int line = 0; line <= n && fault == 0 && !tokens.isEnd(); line++) {
-                readLine();
+            boolean isRead = true;
+            for (int line = 0; line <= n && isRead && !tokens.isEnd(); line++) {
+                isRead = readLine() && readSign(';');
             }
             dropPayeesNeverTold();
             return fault;
@@ -960,10 +979,6 @@ public final class NamedCoins {
         }
 
         private boolean readLine() {
-            return readBody() && readSign(';');
-        }
-
-        private boolean readBody() {
             if (tokens.isWord("person")) {
                 return readPerson(false);
             }
