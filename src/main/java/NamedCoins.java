@@ -39,6 +39,7 @@ public final class NamedCoins {
     private final Rules freshRules;
     private final Reader reader;
     private final Course course;
+    private final Sums sums;
     private final Guess guess;
     private final Play play;
     private int fed = 0;
@@ -61,6 +62,7 @@ public final class NamedCoins {
         freshRules = fresh;
         reader = new Reader(new Tokens(bytes), trial, fresh);
         course = new Course(present.world, trial, told);
+        sums = new Sums();
         guess = new Guess(present, trial, told);
         play = new Play(present.world, trial, told);
     }
@@ -291,7 +293,7 @@ public final class NamedCoins {
             throw new IllegalArgumentException("no such sum");
         }
         int own = Sums.moneyOf(now, person);
-        return what == 0 ? Sums.fewest(now, own, 0, sum) : Sums.countSets(now, own, sum);
+        return what == 0 ? sums.fewest(now, own, 0, sum) : sums.countSets(now, own, sum);
     }
 
     public int change(int person, int other, int sum, int what) throws NoSuchElementException, IllegalArgumentException {
@@ -302,7 +304,7 @@ public final class NamedCoins {
         if (sum < 0 || sum > MOST_SUM) {
             throw new IllegalArgumentException("no such sum");
         }
-        int set = Sums.fewest(now, Sums.moneyOf(now, person), Sums.moneyOf(now, other), sum);
+        int set = sums.fewest(now, Sums.moneyOf(now, person), Sums.moneyOf(now, other), sum);
         return what == 1 || set == NONE ? set : Integer.bitCount(set);
     }
 
@@ -312,8 +314,8 @@ public final class NamedCoins {
         needWhat(what, 1);
         needTwo(person, other);
         int all = Sums.moneyOf(now, person) | Sums.moneyOf(now, other);
-        int set = Sums.fairest(now, all);
-        return what == 1 ? set : Sums.apart(now, all, set);
+        int set = sums.fairest(now, all);
+        return what == 1 ? set : sums.apart(all, set);
     }
 
     public int lacks(int person) throws NoSuchElementException {
@@ -528,7 +530,7 @@ public final class NamedCoins {
 
         private void tally() {
             Arrays.fill(wealth, 0);
-            for (int coin = 0; coin < MOST_COINS; coin++) {
+            for (int coin = 0; coin < coins && coin < MOST_COINS; coin++) {
                 if (isPerson(holder[coin])) {
                     wealth[holder[coin]] += worth[coin];
                 }
@@ -625,7 +627,7 @@ public final class NamedCoins {
             for (int coin = 0; coin < coins && coin < MOST_COINS; coin++) {
                 passOn(coin, rules);
             }
-            for (int coin = 0; coin < coins && coin < MOST_COINS; coin++) {
+            for (int coin = 0; falseCoins != 0 && coin < coins && coin < MOST_COINS; coin++) {
                 if (isFalse(coin)) {
                     wearDown(coin);
                 }
@@ -652,7 +654,7 @@ public final class NamedCoins {
         private void passOn(int coin, Rules rules) {
             int from = holder[coin];
             int to = payeeOf(from);
-            if (!isPerson(from) || !isPerson(to)) {
+            if (to == NONE || !isPerson(from) || !isPerson(to)) {
                 return;
             }
             if (worth[coin] == 0 || rules.isSpent(this, coin, wealth[from], wealth[to])) {
@@ -1427,36 +1429,54 @@ public final class NamedCoins {
     /** Sets of coins and what they are worth together. Sets are gone through from the least bits up. */
     private static final class Sums {
         private static final int MOST_SETS = 1 << MOST_COINS;
+        private static final int HALF = MOST_COINS / 2;
+        private static final int HALF_SETS = 1 << HALF;
+
+        /** Of the lower and of the upper half of the coins: two small rows spare adding up each of 4096 sets. */
+        private final int[] lowSums = new int[HALF_SETS];
+        private final int[] highSums = new int[HALF_SETS];
 
         static int moneyOf(World world, int person) {
             return world.heldBy(person) & ~world.gifts();
         }
 
-        private static int sumOf(World world, int set) {
-            int sum = 0;
-            for (int coin = 0; coin < MOST_COINS; coin++) {
-                if ((set & 1 << coin) != 0) {
-                    sum += world.worth[coin];
-                }
+        /** From now on sumOf() tells by how much the own ones of a set are worth more than the others of it. */
+        private void addUp(World world, int own, int others) {
+            for (int set = 1; set < HALF_SETS; set++) {
+                int coin = Integer.numberOfTrailingZeros(set);
+                int rest = set & set - 1;
+                lowSums[set] = lowSums[rest] + valueOf(world, coin, own, others);
+                highSums[set] = highSums[rest] + valueOf(world, coin + HALF, own, others);
             }
-            return sum;
+        }
+
+        private static int valueOf(World world, int coin, int own, int others) {
+            int value = coin >= 0 && coin < MOST_COINS ? world.worth[coin] : 0;
+            if ((own & 1 << coin) != 0) {
+                return value;
+            }
+            return (others & 1 << coin) != 0 ? -value : 0;
+        }
+
+        private int sumOf(int set) {
+            return lowSums[set & HALF_SETS - 1] + highSums[set >> HALF & HALF_SETS - 1];
         }
 
         private static int setBehind(int set, int all) {
-            return (set - all) & all;
+            return set - all & all;
         }
 
         /** The fewest coins whose own ones are worth just the sum more than the others among them; NONE. */
-        static int fewest(World world, int own, int others, int sum) {
+        int fewest(World world, int own, int others, int sum) {
+            addUp(world, own, others);
             int best = NONE;
-            int all = own | others;
             int set = 0;
             for (int i = 0; i < MOST_SETS; i++) {
-                boolean isFewer = best == NONE || Integer.bitCount(set) < Integer.bitCount(best);
-                if (isFewer && sumOf(world, set & own) - sumOf(world, set & others) == sum) {
+                boolean isJust = sumOf(set) == sum;
+                if (isJust && (best == NONE || Integer.bitCount(set) < Integer.bitCount(best))) {
                     best = set;
                 }
-                set = setBehind(set, all);
+                set = setBehind(set, own | others);
                 if (set == 0) {
                     break;
                 }
@@ -1464,11 +1484,12 @@ public final class NamedCoins {
             return best;
         }
 
-        static int countSets(World world, int all, int sum) {
+        int countSets(World world, int all, int sum) {
+            addUp(world, all, 0);
             int many = 0;
             int set = 0;
             for (int i = 0; i < MOST_SETS; i++) {
-                if (sumOf(world, set) == sum) {
+                if (sumOf(set) == sum) {
                     many++;
                 }
                 set = setBehind(set, all);
@@ -1479,19 +1500,13 @@ public final class NamedCoins {
             return many;
         }
 
-        static int apart(World world, int all, int set) {
-            return Math.abs(sumOf(world, set) - sumOf(world, all & ~set));
-        }
-
-        static int fairest(World world, int all) {
+        int fairest(World world, int all) {
+            addUp(world, all, 0);
             int best = 0;
-            int bestApart = apart(world, all, 0);
             int set = 0;
             for (int i = 0; i < MOST_SETS; i++) {
-                int apart = apart(world, all, set);
-                if (apart < bestApart) {
+                if (apart(all, set) < apart(all, best)) {
                     best = set;
-                    bestApart = apart;
                 }
                 set = setBehind(set, all);
                 if (set == 0) {
@@ -1499,6 +1514,11 @@ public final class NamedCoins {
                 }
             }
             return best;
+        }
+
+        /** Only behind fairest(), which adds up. */
+        int apart(int all, int set) {
+            return Math.abs(sumOf(all) - 2 * sumOf(set));
         }
 
         static int leastUnpaid(World world, int all) {

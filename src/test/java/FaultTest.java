@@ -39,6 +39,8 @@ public final class FaultTest {
         fault("12345", 1, 0);
         fault("persons 1 2;", 1, 0);
         fault("perso", 1, 0);
+        fault("berson 1 2;", 1, 0);
+        fault("mames 1;", 1, 0);
         fault("pays 1;", 1, 0);
         fault("not 1;", 1, 0);
         fault("person", 1, 6);
@@ -127,6 +129,11 @@ public final class FaultTest {
         fault("names 1+12345;", 2, 8);
         fine("names 9999;");
         fault("names foo;", 3, 6);
+        fault("names z;", 3, 6);
+        fault("names a;", 3, 6);
+        fault("names 1 and foo and 2;", 3, 12);
+        fault("names `;", 1, 6);
+        fault("names {;", 1, 6);
         fault("names worth;", 3, 6);
         fault("names theirs;", 3, 6);
         fault("names or;", 3, 6);

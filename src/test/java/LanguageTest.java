@@ -118,7 +118,7 @@ public final class LanguageTest {
             Check.due(name, name.equals("java.util.Arrays") || name.equals("java.util.NoSuchElementException"), true);
         }
         Matcher calls = Pattern.compile("\\b(Math|Integer|Arrays|System)\\.(\\w+)").matcher(code);
-        Set<String> allowed = Set.of("max", "min", "abs", "bitCount", "fill", "arraycopy");
+        Set<String> allowed = Set.of("max", "min", "abs", "bitCount", "numberOfTrailingZeros", "fill", "arraycopy");
         while (calls.find()) {
             Check.due(calls.group(), allowed.contains(calls.group(2)), true);
         }

@@ -124,6 +124,20 @@ public final class PromiseTest {
         due("empty text", x.mint(0), 0);
         due("nobody", x.count(0), 0);
         mintForgetsRules();
+        mintForgetsTrials();
+    }
+
+    /** What was foreseen ahead of a text must not show behind it. */
+    private static void mintForgetsTrials() {
+        NamedCoins x = Check.told("person 0 5 pays 1;person 0 0;coin 9 0;minting 1;names 7;");
+        x.later(6, 0);
+        due("minting told again", Check.tell(x, "person 0 0;person 0 0;minting 2;"), 0);
+        due("pays nobody", x.person(0, 2), NONE);
+        due("year", x.count(2), 0);
+        due("none false", x.count(5), 0);
+        due("none crumbled", x.count(6), 0);
+        due("no holder", x.then(0, 0, 0), NONE);
+        due("no worth", x.then(0, 0, 1), 0);
     }
 
     private static void mintForgetsRules() {
@@ -474,6 +488,7 @@ public final class PromiseTest {
         due("forty are kept", x.count(11), 40);
         for (int left = 39; left >= 0; left--) {
             due("left", x.undo(), left);
+            due("worth at " + left, x.coin(0, 0), left + 4);
         }
         due("as behind the fifth", x.coin(0, 0), 4);
         due("no more", x.undo(), NONE);
@@ -485,6 +500,18 @@ public final class PromiseTest {
         y.years(12);
         y.undo();
         due("not crumbled again", y.count(6), 0);
+        y.years(1);
+        y.anew(0, 7);
+        y.undo();
+        due("crumbled ahead of the act", y.count(6), 2);
+        due("and the year", y.count(2), 2);
+        due("and the coins", y.count(1), 2);
+        due("and their holders", y.coin(0, 1), 0);
+        NamedCoins z = Check.told(TWO);
+        z.years(1);
+        z.pays(0, NONE);
+        z.undo();
+        due("holders", z.person(1, 4), 2);
     }
 
     private static void then() {
@@ -632,6 +659,11 @@ public final class PromiseTest {
         due("all in it", y.count(8), 255);
         due("one part", y.count(10), 1);
         due("no sink", y.count(9), 0);
+        NamedCoins z = Check.told("person 0 0;person 0 0 pays 0;person 0 0;person 0 0 pays 4;person 0 0;");
+        due("sinks", z.count(9), 17);
+        due("parts", z.count(10), 3);
+        due("no rings", z.count(8), 0);
+        due("one alone", Check.told("person 0 0;").count(10), 1);
         due("seven steps", y.steps(3, 2), 7);
         y.pays(7, NONE);
         due("a row of eight", y.comesTo(0), 254);
@@ -659,6 +691,7 @@ public final class PromiseTest {
         NamedCoins x = Check.told(PURSE);
         due("5 by one coin, the least", x.toPay(0, 5, 0), 1);
         due("5: three ways", x.toPay(0, 5, 1), 3);
+        due("1 by 1", x.toPay(0, 1, 0), 64);
         due("8 by 5 and 3", x.toPay(0, 8, 0), 3);
         due("8: 5 3, 5 3, 5 2 1, 5 2 1", x.toPay(0, 8, 1), 4);
         due("all of them", x.toPay(0, 16, 0), 103);
@@ -717,7 +750,9 @@ public final class PromiseTest {
         due("no set", none.share(0, 1, 1), 0);
         due("one coin", Check.told("person 0 0;person 0 0;coin 9 0;").share(0, 1, 0), 9);
         due("goes to the other one", Check.told("person 0 0;person 0 0;coin 9 0;").share(0, 1, 1), 0);
-        Check.noSuch("person 3", () -> x.share(3, 3, 0));
+        Check.noSuch("both 3", () -> x.share(3, 3, 0));
+        Check.noSuch("person 3", () -> x.share(3, 0, 0));
+        Check.noSuch("person -1", () -> x.share(-1, 0, 0));
         Check.noSuch("other -1", () -> x.share(0, -1, 0));
         Check.noSuch("what 2", () -> x.share(0, 0, 2));
         Check.noSuch("what -1", () -> x.share(0, 1, -1));
@@ -751,6 +786,7 @@ public final class PromiseTest {
         Check.illegal("-1", () -> x.toName(0, 0, -1));
         NamedCoins rich = Check.told("person 0 0;person 0 0;coin 99 0;coin 1 0;coin 9 1;minting 9;");
         due("none", rich.toName(2, 0, 0), NONE);
+        due("99", Check.told("person 0 0;person 0 0;coin 99 0;coin 5 1;").toName(1, 0, 0), 99);
         NamedCoins y = Check.told(FALSE);
         y.years(2);
         due("crumbled", y.toName(1, 0, 0), NONE);
@@ -813,6 +849,17 @@ public final class PromiseTest {
         due("0 is poorest behind 2", y.needy(2), 1);
         due("0 with 6, 7 (70 at most); 1 with 5, 6, 8, 9 (50 at least)", y.needy(0), 6);
         due("0 with 6", y.needy(1), 6);
+        needyLater();
+    }
+
+    private static void needyLater() {
+        NamedCoins x = Check.told("person 5 0;person 5 0;person 3 0;coin 40 0;coin 45 1;minting 1;");
+        x.see(0, 1);
+        due("2 with 4 to 9", x.needy(0), 6);
+        due("the first of them", x.needy(1), 24);
+        due("not without", x.needy(2), 0);
+        x.see(0, 0);
+        due("2 is poorest now", x.needy(0), 0);
     }
 
     private static void look() {
@@ -840,6 +887,13 @@ public final class PromiseTest {
         NamedCoins x = Check.told("person 0 0 pays 1;person 0 0;coin 3 1;coin 9 0;minting 9;spends 5<need;");
         due("coin 1 is held by 0 or by 1", x.look(0), 1);
         due("two", x.look(1), 2);
+        x.see(0, 0);
+        x.see(1, 0);
+        due("none any more", x.look(0), NONE);
+        due("none of them", x.look(1), 0);
+        String start = "person 0 0 pays 1;person 0 0;coin 9 0;minting 9;spends 5<need and year=";
+        due("in the eighth year", Check.told(start + "7;").look(1), 2);
+        due("in the ninth year", Check.told(start + "8;").look(1), 1);
     }
 
     /** Behind 8 years the false coin is crumbled or not, by need. */
@@ -903,7 +957,9 @@ public final class PromiseTest {
         NamedCoins none = Check.told("person 0 0;person 0 0;coin 0 0;coin 0 1;minting 9;");
         due("gifts aren't given", none.game(0, 1, 0), 1);
         due("0 alone", none.game(0, 1, 1), 0);
-        Check.noSuch("person 2", () -> x.game(2, 2, 0));
+        Check.noSuch("both 2", () -> x.game(2, 2, 0));
+        Check.noSuch("person 2", () -> x.game(2, 0, 0));
+        Check.noSuch("person -1", () -> x.game(-1, 0, 0));
         Check.noSuch("other -1", () -> x.game(0, -1, 0));
         Check.noSuch("what 2", () -> x.game(0, 0, 2));
         Check.noSuch("what -1", () -> x.game(0, 1, -1));
@@ -924,6 +980,20 @@ public final class PromiseTest {
         due("giving gains", y.game(0, 1, 0), 1);
         due("10: the first gives, the other has 0 alone", y.game(0, 1, 1), 10);
         due("1: the other gives", y.game(1, 0, 1), 1);
+        String start = "person 0 0 pays 2;person 0 0 pays 0;person 0 0;coin 50 0;coin 9 2;"
+                + "minting 9;spends worth=50 and year=";
+        due("in the sixth year", Check.told(start + "5;").game(0, 1, 1), 10);
+        due("in the seventh year", Check.told(start + "6;").game(0, 1, 1), 0);
+        gameOfTens();
+    }
+
+    /** 2 has least all the time: only tens count for the first one, who gains by nothing below ten. */
+    private static void gameOfTens() {
+        String people = "person 0 0;person 0 0;person 0 0;minting 9;";
+        due("10 more is 1 more", Check.told(people + "coin 50 0;coin 10 0;coin 40 1;").game(0, 1, 0), 1);
+        due("7 is all one", Check.told(people + "coin 3 0;coin 1 0;coin 3 1;coin 1 1;").game(0, 1, 0), 4);
+        due("but 17 is 1 more than 9", Check.told(people + "coin 8 0;coin 1 0;coin 8 1;coin 1 1;").game(0, 1, 0), 3);
+        due("19 less is not", Check.told(people + "coin 19 0;coin 9 0;coin 9 1;").game(0, 1, 1), 0);
     }
 
     private static void ages() {
@@ -938,7 +1008,51 @@ public final class PromiseTest {
         Check.illegal("-1", () -> x.ages(5, -1, 2));
         due("nothing has changed", x.count(2), 0);
         due("nobody", new NamedCoins().ages(1, 60, 2), 0);
+        NamedCoins y = Check.told(FALSE);
+        y.years(2);
+        due("only what crumbles in them", y.ages(3, 0, 1), 0);
         stockingBySeed();
+        givenBySeed();
+        payeeBySeed();
+    }
+
+    private static int draw(int seed, int n) {
+        return (seed >>> 16 & 32767) % n;
+    }
+
+    private static int behind(int seed) {
+        return seed * 1103515245 + 12345;
+    }
+
+    /** If the coin is given to 1, 0 is poorest and names 90; else 1 names 50, false if 1 got a stocking. */
+    private static void givenBySeed() {
+        NamedCoins x = Check.told("person 9 0;person 5 0;coin 9 0;minting 1;");
+        for (int seed = 0; seed < 300; seed++) {
+            int first = behind(seed);
+            int second = behind(first);
+            int third = behind(second);
+            boolean isGiven = draw(first, 6) == 0 && draw(third, 2) == 1;
+            boolean isFalse = draw(first, 6) == 1 && draw(second, 2) == 1 && draw(third, 5) != 0;
+            due("seed " + seed, x.ages(seed, 1, 2), isGiven ? 99 : isFalse ? 58 : 59);
+        }
+    }
+
+    /** If 1 pays 0 from the first year on, 1 is poorest in the second and names 50; else 0 names a gift. */
+    private static void payeeBySeed() {
+        NamedCoins x = Check.told("person 0 0;person 5 0;coin 30 1;minting 2;names 10*need;spends 1;");
+        for (int seed = 0; seed < 300; seed++) {
+            int first = behind(seed);
+            int second = behind(first);
+            int third = behind(second);
+            if (draw(first, 6) < 2) {
+                continue;
+            }
+            boolean isPaid = draw(first, 6) == 2 && draw(second, 2) == 1 && draw(third, 2) == 0;
+            int fourth = behind(draw(first, 6) == 2 ? third : first);
+            if (draw(fourth, 6) > 2) {
+                due("paid by seed " + seed, x.ages(seed, 2, 2), isPaid ? 80 : 30);
+            }
+        }
     }
 
     /** A seed whose first draw of 6 is 1 puts a stocking, and the coin named then is false and wears. */
@@ -1009,7 +1123,25 @@ public final class PromiseTest {
         due("the sight itself", x.needy(2), x.later(7, 0) == 0 ? 1 : 0);
         due("undone", x.undo(), 0);
         due("to the start", x.count(2), 0);
+        x.give(0, 1);
+        x.forget();
         Check.due("again", x.restore(), true);
         due("year again", x.count(2), 1);
+        due("seen again", x.count(12), 1);
+        due("the image's own act is undone", x.undo(), 0);
+        due("not the later one", x.coin(0, 1), 0);
+        sightsComeBack();
+    }
+
+    private static void sightsComeBack() {
+        NamedCoins x = Check.told(GUESS);
+        x.see(1, 1);
+        x.image();
+        x.forget();
+        x.see(0, 2);
+        x.see(0, 20);
+        due("restored", x.restore() ? 1 : 0, 1);
+        due("one is seen", x.count(12), 1);
+        due("what was seen", x.needy(0), 13);
     }
 }
