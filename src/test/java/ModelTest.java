@@ -7,7 +7,7 @@ import java.util.TreeMap;
 
 /** Random runs of calls, each answered by NamedCoins and by the Model alike. Seeds are fixed. */
 public final class ModelTest {
-    private static final int RUNS = 1500;
+    private static final int RUNS = 1000;
     private static final int CALLS = 110;
     private static final String[] WORDS = {"person", "beggar", "pays", "coin", "minting", "names", "spends", "or", "and",
         "not", "need", "has", "coins", "year", "stocking", "worth", "theirs", "foo", "x"};
@@ -45,7 +45,9 @@ public final class ModelTest {
 
     private void go(TreeMap<String, Integer> answers) {
         Method[] methods = facesMethods();
-        mintText();
+        for (int i = 0; i < 4 && model.count(1) == 0; i++) {
+            mintText();
+        }
         for (int i = 0; i < CALLS && isSame; i++) {
             Method method = methods[random.nextInt(methods.length)];
             String name = method.getName();
@@ -56,7 +58,7 @@ public final class ModelTest {
                 if (random.nextInt(6) == 0) {
                     mintText();
                 } else if (random.nextInt(5) == 0) {
-                    call(name, pick(-1, 0, 20, 701));
+                    call(name, random.nextInt(30) == 0 ? pick(0, 20) : pick(-1, 701));
                 }
             } else {
                 call(name, arguments(name));
@@ -171,7 +173,9 @@ public final class ModelTest {
 
     private void mintText() {
         call("mint", -1);
-        call("mint", 0);
+        if (model.count(13) > 0 && random.nextBoolean()) {
+            call("mint", 0);
+        }
         String text = random.nextInt(3) == 0 ? spoilt(text()) : text();
         text = text.length() > 700 ? text.substring(0, 700) : text;
         told.add(text);
@@ -183,7 +187,7 @@ public final class ModelTest {
             }
             call("feed", five);
         }
-        call("mint", text.length());
+        call("mint", model.count(13) < 700 ? model.count(13) - (20 - text.length() % 20) % 20 : 700);
         call("fault");
     }
 
@@ -201,16 +205,19 @@ public final class ModelTest {
             int worth = random.nextInt(4) == 0 ? 0 : random.nextInt(random.nextBoolean() ? 100 : 15);
             text.append("coin ").append(worth).append(' ').append(random.nextInt(people)).append(';');
         }
-        if (random.nextInt(4) != 0) {
-            text.append("minting ").append(1 + random.nextInt(random.nextBoolean() ? 3 : 9)).append(';');
-        }
-        if (random.nextBoolean()) {
-            text.append("names ").append(expression(true, 0)).append(';');
-        }
-        if (random.nextBoolean()) {
-            text.append("spends ").append(expression(false, 0)).append(';');
+        for (int i = 0; i < 3; i++) {
+            String line = random.nextInt(3) == 0 ? "" : rareLine(i);
+            text.insert(random.nextBoolean() ? 0 : text.length(), line);
         }
         return text.toString();
+    }
+
+    private String rareLine(int kind) {
+        switch (kind) {
+            case 0: return "minting " + (1 + random.nextInt(random.nextBoolean() ? 3 : 9)) + ";";
+            case 1: return "names " + expression(true, 0) + ";";
+            default: return "spends " + expression(false, 0) + ";";
+        }
     }
 
     private String expression(boolean names, int depth) {

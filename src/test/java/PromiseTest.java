@@ -348,6 +348,10 @@ public final class PromiseTest {
         names("stocking", 0);
         names("has*10+need", 37);
         due("stocking is named, and false", namesStocking(), 11);
+        NamedCoins turned = Check.told("spends 0-7;names 6;minting 1;person 0 0 pays 1;person 0 0;coin 9 1;");
+        turned.years(1);
+        due("rules in the other order: names", turned.coin(1, 0), 6);
+        due("rules in the other order: spends", turned.coin(1, 1), 0);
         spends("1", 3);
         spends("0", 0);
         spends("0-1", 0);
@@ -993,6 +997,11 @@ public final class PromiseTest {
         due("10 more is 1 more", Check.told(people + "coin 50 0;coin 10 0;coin 40 1;").game(0, 1, 0), 1);
         due("7 is all one", Check.told(people + "coin 3 0;coin 1 0;coin 3 1;coin 1 1;").game(0, 1, 0), 4);
         due("but 17 is 1 more than 9", Check.told(people + "coin 8 0;coin 1 0;coin 8 1;coin 1 1;").game(0, 1, 0), 3);
+        // if 0 gives 30, 1 has 90 and so 2 hands 90 to 1, too: 0 has 5, but isn't poorest: 3 either way
+        NamedCoins x = Check.told("person 0 0;person 0 0;person 0 0 pays 1;coin 30 0;coin 5 0;coin 60 1;coin 90 2;"
+                + "minting 9;spends 80<theirs;");
+        due("30 is as good as not to be poorest", x.game(0, 1, 0), 2);
+        due("the first", x.game(0, 1, 1), 0);
         due("19 less is not", Check.told(people + "coin 19 0;coin 9 0;coin 9 1;").game(0, 1, 1), 0);
     }
 
