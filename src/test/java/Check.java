@@ -9,21 +9,39 @@ final class Check {
 
     private static int passed = 0;
     private static int failed = 0;
+    private static String heading = "";
 
     private Check() {
     }
 
+    /** From now on what is wrong is told under this heading. */
+    static void under(String name) {
+        heading = name.isEmpty() ? "" : name + ": ";
+    }
+
+    static int done() {
+        return passed + failed;
+    }
+
     static void due(String what, long got, long want) {
-        if (got == want) {
-            passed++;
-        } else {
-            failed++;
-            System.out.println(what + " answered " + got + ", due is " + want);
-        }
+        note(got == want, what + " answered " + got + ", due is " + want);
     }
 
     static void due(String what, boolean got, boolean want) {
         due(what, got ? 1 : 0, want ? 1 : 0);
+    }
+
+    static void same(String what, String got, String want) {
+        note(got.equals(want), what + " is " + got + ", due is " + want);
+    }
+
+    private static void note(boolean isDue, String wrong) {
+        if (isDue) {
+            passed++;
+        } else {
+            failed++;
+            System.out.println(heading + wrong);
+        }
     }
 
     static void noSuch(String what, Call call) {
@@ -36,16 +54,9 @@ final class Check {
 
     private static void throwsJust(String what, Call call, Class<?> due) {
         try {
-            long got = call.run();
-            failed++;
-            System.out.println(what + " answered " + got + ", due is " + due.getSimpleName());
+            note(false, what + " answered " + call.run() + ", due is " + due.getSimpleName());
         } catch (RuntimeException e) {
-            if (e.getClass() == due) {
-                passed++;
-            } else {
-                failed++;
-                System.out.println(what + " threw " + e + ", due is " + due.getSimpleName());
-            }
+            note(e.getClass() == due, what + " threw " + e + ", due is " + due.getSimpleName());
         }
     }
 
