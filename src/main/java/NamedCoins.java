@@ -789,9 +789,10 @@ public final class NamedCoins {
             int top = 0;
             for (int at = from; at < to && at < code.length; at++) {
                 int step = code[at];
-                boolean isOperand = step >= NUMBER || step < VALUES;
+                boolean isValue = step >= 0 && step < VALUES;
+                boolean isOperand = isValue || step >= NUMBER;
                 if (isOperand && top < stack.length) {
-                    stack[top] = step >= NUMBER ? step - NUMBER : values[step];
+                    stack[top] = isValue ? values[step] : step - NUMBER;
                     top++;
                 } else if (step == NOT && top >= 1) {
                     stack[top - 1] = stack[top - 1] == 0 ? 1 : 0;

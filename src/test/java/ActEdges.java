@@ -260,6 +260,43 @@ final class ActEdges extends Edges {
         noSuch(x, "coin 0", () -> x.coin(0, 0));
     }
 
+    @Says("They are UNDONE, the last one first.")
+    static void promise13_allTwelveCoinsAndAllEightPeople() {
+        StringBuilder text = new StringBuilder();
+        for (int person = 0; person < 8; person++) {
+            text.append("person 5 ").append(30 - person).append(" pays ").append((person + 1) % 8).append(';');
+        }
+        for (int coin = 0; coin < 12; coin++) {
+            text.append("coin ").append(99 - coin).append(' ').append(coin % 8).append(';');
+        }
+        NamedCoins x = told(text + "spends 1;");
+        String before = portrait(x);
+        x.years(3);
+        for (int coin = 0; coin < 12; coin++) {
+            x.anew(coin, coin);
+            x.give(coin, coin % 8);
+        }
+        for (int person = 0; person < 8; person++) {
+            x.search(person);
+        }
+        due("acts", x.count(11), 33);
+        while (x.count(11) > 0) {
+            x.undo();
+        }
+        Check.same("all as it was", portrait(x), before);
+    }
+
+    @Says("They are UNDONE, the last one first.")
+    static void promise13_theLastCoinsFalsehoodIsUndone() {
+        NamedCoins x = told("person 0 1;" + "coin 3 0;".repeat(9) + "minting 1;names 5-coins/10*5;");
+        x.years(2);
+        String before = portrait(x);
+        due("the tenth and the eleventh are false or crumbled", x.count(5) | x.count(6), 512 + 1024);
+        x.years(20);
+        due("undone", x.undo(), 1);
+        Check.same("as it was", portrait(x), before);
+    }
+
     @Says("The last ACT is UNDONE: how many are left.")
     static void promise13_whatIsRefusedOrSeenIsNoAct() {
         NamedCoins x = told(PAIR);

@@ -1,4 +1,5 @@
-import java.nio.charset.StandardCharsets;
+import java.util.ArrayList;
+import java.util.List;
 import java.util.NoSuchElementException;
 
 /** What the project's tests share: counting what is due, expecting exceptions, telling a text to a mint. */
@@ -67,15 +68,22 @@ final class Check {
     }
 
     static void feedText(NamedCoins mint, String text) {
-        byte[] bytes = text.getBytes(StandardCharsets.ISO_8859_1);
-        for (int from = 0; from < bytes.length; from += 20) {
-            int[] five = new int[5];
-            for (int i = 0; i < 20; i++) {
-                int sign = from + i < bytes.length ? bytes[from + i] & 255 : ' ';
-                five[i / 4] = five[i / 4] << 8 | sign;
-            }
+        for (int[] five : fives(text)) {
             mint.feed(five[0], five[1], five[2], five[3], five[4]);
         }
+    }
+
+    /** The text's bytes (a character is one) as feed() takes them, with blanks up to the last twenty. */
+    static List<int[]> fives(String text) {
+        List<int[]> fives = new ArrayList<>();
+        for (int from = 0; from < text.length(); from += 20) {
+            int[] five = new int[5];
+            for (int i = 0; i < 20; i++) {
+                five[i / 4] = five[i / 4] << 8 | (from + i < text.length() ? text.charAt(from + i) : ' ');
+            }
+            fives.add(five);
+        }
+        return fives;
     }
 
     static NamedCoins told(String text) {

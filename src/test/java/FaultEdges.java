@@ -147,6 +147,12 @@ final class FaultEdges extends Edges {
         fault("names foo;", 3, 6);
         fault("names or 1;", 3, 6);
         fault("names 1 and or 1;", 3, 12);
+        fault("names 1 and foo;", 3, 12);
+        fault("names 1 or foo;", 3, 11);
+        fault("names not foo;", 3, 10);
+        fault("names 1-foo;", 3, 8);
+        fault("names 1=foo;", 3, 8);
+        fault("names 1/foo;", 3, 8);
         fault("names 1+not 1;", 3, 8);
         fault("names 1<not 1;", 3, 8);
         fault("names 1*person 1 1;", 3, 8);
@@ -226,6 +232,9 @@ final class FaultEdges extends Edges {
         fault("names foo+12345;", 3, 6);
         fault("names 12345+foo;", 2, 6);
         fault("minting 0;minting 0;", 2, 8);
+        fault(";;!", 1, 0);
+        fault("person 1 1 coin 1 0;!", 1, 11);
+        fault("names(1 minting 0;", 1, 8);
     }
 
     @Says("1 a TOKEN that can't stand there, or is none (the text's length where it ends too soon)")

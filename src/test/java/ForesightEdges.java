@@ -198,6 +198,9 @@ final class ForesightEdges extends Edges {
         due("the next one from now on", x.next(), 0);
         NamedCoins y = after(8, start + "7;");
         due("in the very next year", y.next(), 0);
+        NamedCoins z = told(start + "8;");
+        z.later(60, 0);
+        due("whatever was asked ahead", z.next(), 1);
     }
 
     @Says("GETS: behind how many YEARS (0 to 60) one first holds a COIN; none.")

@@ -166,6 +166,12 @@ final class GuessEdges extends Edges {
         x.see(1, 0);
         due("none needy", x.look(0), NONE);
         due("none of those", x.look(1), 0);
+        NamedCoins y = told(GUESS);
+        due("some at first", y.look(1) > 0, true);
+        y.see(0, 0);
+        y.see(1, 0);
+        due("none any more", y.look(0), NONE);
+        due("none of them, whatever was asked ahead", y.look(1), 0);
     }
 
     @Says("the COIN (of like ones the least) that behind 8 YEARS would be held most unlike (nobody is one, too) by these")

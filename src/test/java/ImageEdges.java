@@ -172,4 +172,19 @@ final class ImageEdges extends Edges {
         due("so", x.needy(2), 1);
         due("a ninth", x.see(1, 0), NONE);
     }
+
+    @Says("AN IMAGE keeps all that YEARS and ACTS change, ACTS that are kept, what is SEEN, STATUS.")
+    static void promise36_theYearsOfWhatIsSeenComeBack() {
+        // 1 is poorest up to 19 years, 0 behind 20
+        NamedCoins x = told(GOES_IN_YEAR + "19;");
+        x.see(1, 19);
+        x.see(0, 20);
+        x.image();
+        x.forget();
+        x.see(1, 20);
+        x.see(0, 19);
+        due("not so", x.needy(2), 0);
+        x.restore();
+        due("so", x.needy(2), 1);
+    }
 }

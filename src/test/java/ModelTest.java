@@ -179,12 +179,7 @@ public final class ModelTest {
         String text = random.nextInt(3) == 0 ? spoilt(text()) : text();
         text = text.length() > 700 ? text.substring(0, 700) : text;
         told.add(text);
-        for (int from = 0; from < text.length(); from += 20) {
-            int[] five = new int[5];
-            for (int i = 0; i < 20; i++) {
-                int sign = from + i < text.length() ? text.charAt(from + i) : ' ';
-                five[i / 4] = five[i / 4] << 8 | sign;
-            }
+        for (int[] five : Check.fives(text)) {
             call("feed", five);
         }
         call("mint", model.count(13) < 700 ? model.count(13) - (20 - text.length() % 20) % 20 : 700);

@@ -34,6 +34,8 @@ final class PayeeEdges extends Edges {
         due("one alone", told("person 0 0;").count(10), 1);
         due("eight alone", told("person 0 0;".repeat(8)).count(10), 8);
         due("a row of eight", told(row(8, "")).count(10), 1);
+        due("four of two", told("person 0 0 pays 1;person 0 0;person 0 0 pays 3;person 0 0;person 0 0 pays 5;person 0 0;"
+                + "person 0 0 pays 7;person 0 0;").count(10), 4);
         due("held together by whom both pay",
                 told("person 0 0 pays 2;person 0 0 pays 2;person 0 0;person 0 0;").count(10), 2);
         due("the other way round", told("person 0 0;person 0 0 pays 0;person 0 0 pays 1;person 0 0 pays 2;"

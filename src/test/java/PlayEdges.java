@@ -74,6 +74,9 @@ final class PlayEdges extends Edges {
         due("never or twice", x.thieves(1, 2, 3), 58);
         due("once or thrice of three: 3 * 147 + 27", x.thieves(0, 3, 3), 468);
         due("together, five years", x.thieves(0, 5, 3) + x.thieves(1, 5, 3), 100000);
+        due("1 of 10", x.thieves(0, 1, 1), 1);
+        due("9 of 10", x.thieves(1, 1, 1), 9);
+        due("once or thrice of three, with 1: 3 * 81 + 1", x.thieves(0, 3, 1), 244);
     }
 
     @Says("the COIN of most WORTH (of like ones the least; not CRUMBLED; a GIFT, if there are no others)")
@@ -93,6 +96,14 @@ final class PlayEdges extends Edges {
         NamedCoins crumbled = after(9, "person 0 1;person 0 0;coin 0 1;minting 9;names 1;");
         due("a crumbled one", crumbled.count(6), 2);
         due("is not stolen", crumbled.thieves(0, 5, 10), 100000);
+    }
+
+    @Says("how likely one is the POOREST behind them")
+    static void promise32_behindJustSoManyYears() {
+        NamedCoins x = told(GOES_IN_YEAR + "4;");
+        due("behind 4 years", x.thieves(1, 4, 0), 10000);
+        due("behind 5 years", x.thieves(0, 5, 0), 100000);
+        due("behind 5 years no more", x.thieves(1, 5, 0), 0);
     }
 
     @Says("ahead of the YEAR the COIN of most WORTH")
@@ -190,6 +201,52 @@ final class PlayEdges extends Edges {
         due("1 from the other side", x.game(1, 0, 1), 1);
     }
 
+    @Says("A GAME: how many couples rest (what 0), the first (1; NONE: none).")
+    static void promise33_noneRests() {
+        // gains (0, 0): 2, 5; (0, 1): 6, 1; (1, 0): 6, 1; (1, 1): 2, 5
+        NamedCoins x = told("person 0 0;person 0 0 pays 0;coin 10 1;coin 20 1;coin 10 0;minting 9;spends 20<has;");
+        due("how many", x.game(0, 1, 0), 0);
+        due("the first", x.game(0, 1, 1), NONE);
+        due("from the other side", x.game(1, 0, 1), NONE);
+    }
+
+    @Says("the first (10 by the first one's, and the other one's)")
+    static void promise33_onlyTheLastCoupleRests() {
+        // in the first year each coin goes to the other one; gains (0, 0): 1, 7; (0, 1): 0, 8; (1, 0): 8, 0; (1, 1): 7, 1
+        NamedCoins x = told("person 0 0 pays 1;person 0 0 pays 0;coin 40 0;coin 10 1;minting 9;spends year<1;");
+        due("how many", x.game(0, 1, 0), 1);
+        due("both give", x.game(0, 1, 1), 11);
+    }
+
+    @Says("both at once, of those held now")
+    static void promise33_whatComesFromTheOtherOneIsNotGivenBack() {
+        // 1 hands on what is more than 20; gains (0, 0): 6, 1; (0, 1), (1, 0), (1, 1): 7, 0; were 30 given back: 6, 1
+        NamedCoins x = told("person 0 0;person 0 0 pays 0;coin 10 1;coin 30 0;minting 9;spends 20<has;");
+        due("how many", x.game(0, 1, 0), 2);
+        due("the first", x.game(0, 1, 1), 10);
+        due("from the other side", x.game(1, 0, 1), 1);
+    }
+
+    @Says("and 3, if one is not the POOREST then")
+    static void promise33_threeForNotBeingThePoorest() {
+        // if 0 gives the first coin, 1 has 80 or more and 2 hands 90 to 1: 0 has 5, but 2 is the poorest
+        String people = "person 0 0;person 0 0;person 0 0 pays 1;minting 9;spends 75<theirs;coin 5 0;coin 60 1;coin 90 2;";
+        due("25 kept gains 2", told(people + "coin 20 0;").game(0, 1, 1), 10);
+        due("one couple", told(people + "coin 20 0;").game(0, 1, 0), 1);
+        due("35 kept gains 3, as much", told(people + "coin 30 0;").game(0, 1, 0), 2);
+        due("45 kept gains 4", told(people + "coin 40 0;").game(0, 1, 0), 1);
+        due("none gives", told(people + "coin 40 0;").game(0, 1, 1), 0);
+    }
+
+    @Says("A couple RESTS, if neither gains more by the other choice")
+    static void promise33_asMuchIsNotMore() {
+        NamedCoins x = told("person 0 0;person 0 0;coin 5 0;coin 4 1;minting 9;");
+        // gains (0, 0): 3, 0; (0, 1): 3, 0; (1, 0): 0, 3; (1, 1): 0, 3
+        due("to 1 it is all one", x.game(0, 1, 0), 2);
+        due("the first", x.game(0, 1, 1), 0);
+        due("from the other side", x.game(1, 0, 0), 2);
+    }
+
     @Says("NoSuchElementException: another what.")
     static void promise34_anotherWhat() {
         NamedCoins x = told(PAIR);
@@ -283,6 +340,11 @@ final class PlayEdges extends Edges {
         // if 1 pays 0, too, 30 goes on to 0 in the second year, behind the minting
         int other = seedWhere(n -> n[0] % 6 == 2 && n[1] % 2 == 1 && n[2] % 2 == 0 && n[3] % 6 > 2);
         due("1 pays 0", x.ages(other, 2, 2), 30);
+        // 1 pays 0 and 30 goes on in the first year, so that 1 names 50 in the second; if 1 pays nobody, 0 names 0
+        NamedCoins y = told("person 0 0;person 5 0 pays 0;coin 30 1;minting 2;names 10*need;spends 1;");
+        int last = seedWhere(n -> n[0] % 6 == 2 && n[1] % 2 == 1 && n[2] % 2 == 1 && n[3] % 6 > 2);
+        due("1 pays 1: nobody", y.ages(last, 2, 2), 30);
+        due("1 pays 0 as ever", y.ages(seedWhere(n -> n[0] % 6 > 2 && n[1] % 6 > 2), 2, 2), 80);
         due("nothing else is drawn", x.ages(seedWhere(n -> n[0] % 6 > 2 && n[1] % 6 > 2), 2, 2), 30);
     }
 

@@ -52,6 +52,7 @@ final class SumEdges extends Edges {
         due("what another one holds", x.toPay(0, 7, 0), NONE);
         due("gifts alone", x.toPay(2, 1, 0), NONE);
         due("nothing", x.toPay(3, 1, 0), NONE);
+        due("another one's is no change", told("person 0 0;person 0 0;coin 3 0;coin 8 1;").toPay(1, 5, 0), NONE);
     }
 
     @Says("WAYS: how many sets of them do (0: none).")
@@ -60,6 +61,19 @@ final class SumEdges extends Edges {
         due("between", x.toPay(0, 4, 1), 0);
         due("gifts alone", x.toPay(2, 1, 1), 0);
         due("nothing", x.toPay(3, 1, 1), 0);
+    }
+
+    @Says("WAYS: how many sets of them do (0: none).")
+    static void promise23_waysAreOfOnesOwnWhateverWasAskedAhead() {
+        NamedCoins x = told(PURSES);
+        due("4 of 1", x.toPay(1, 4, 1), 1);
+        due("5 of 0", x.toPay(0, 5, 1), 1);
+        due("4 of 0", x.toPay(0, 4, 1), 0);
+        x.share(0, 1, 0);
+        due("5 of 1", x.toPay(1, 5, 1), 0);
+        x.change(0, 1, 1, 0);
+        due("9 of 0", x.toPay(0, 9, 1), 0);
+        due("8 of 0", x.toPay(0, 8, 1), 1);
     }
 
     @Says("from one's COINS (no GIFTS)")

@@ -201,6 +201,28 @@ final class TextEdges extends Edges {
         fault("names z;", 3, 6);
     }
 
+    @Says("In quotes is what stands there")
+    static void promise03_eachLetterOfAWordCounts() {
+        String[] lines = {"person 1 2;", "beggar 1 2;", "coin 1 0;", "minting 4;", "names 1;", "spends 1;"};
+        for (String line : lines) {
+            fault("x" + line.substring(1), 1, 0);
+            fault(line.replaceFirst("[a-z] ", "x "), 1, 0);
+            fault(line.substring(1), 1, 0);
+        }
+        fault("person 1 2 bays 1;", 1, 11);
+        fault("person 1 2 payx 1;", 1, 11);
+        fault("names 1 ord 2;", 1, 8);
+        fault("names 1 end 2;", 1, 8);
+        fault("names nod 1;", 3, 6);
+        String[] values = {"need", "has", "coins", "year", "stocking", "worth", "theirs"};
+        for (String value : values) {
+            String rule = value.equals("worth") || value.equals("theirs") ? "spends " : "names ";
+            fine(rule + value + ";");
+            fault(rule + "x" + value.substring(1) + ";", 3, rule.length());
+            fault(rule + value.substring(0, value.length() - 1) + "x;", 3, rule.length());
+        }
+    }
+
     @Says("words (a .. z, the longest row)")
     static void promise03_capitalsAndSignsBesideTheLettersAreNoWords() {
         fault("Person 1 2;", 1, 0);
@@ -230,6 +252,31 @@ final class TextEdges extends Edges {
         due("no beggar", x.person(0, 6), 0);
         due("without SPENDS 9 is more than half of 9", x.then(1, 3, 0), 0);
         due("without NAMES ten times 3 less 9", x.then(2, 4, 1), 21);
+    }
+
+    @Says("all anew: 0")
+    static void promise03_whatWasForeseenIsNotOfTheNextText() {
+        NamedCoins x = told("person 0 5 pays 1;person 0 0;coin 9 0;minting 1;names 3;");
+        x.later(6, 0);
+        due("a text of two people alone", Check.tell(x, "person 0 0;person 0 0;minting 2;"), 0);
+        due("year", x.count(2), 0);
+        due("pays nobody", x.person(0, 2), NONE);
+        due("no coins", x.count(1), 0);
+        due("none false", x.count(5), 0);
+        due("none crumbled", x.count(6), 0);
+        due("nobody holds coin 0", x.then(0, 0, 0), NONE);
+        due("it is worth nothing", x.then(0, 0, 1), 0);
+        due("nobody holds any", x.person(0, 4), 0);
+    }
+
+    @Says("MINT: LINE*.")
+    static void promise03_linesInAnyOrder() {
+        NamedCoins x = after(1, "spends 0-7;names 6;minting 1;person 0 0 pays 1;person 0 0;coin 9 1;");
+        due("names", x.coin(1, 0), 6);
+        due("spends", x.coin(1, 1), 0);
+        NamedCoins y = after(1, "names 6;person 0 0 pays 1;person 0 0;coin 9 1;minting 1;spends 7;");
+        due("names first", y.coin(1, 0), 6);
+        due("spends last", y.coin(1, 1), 1);
     }
 
     @Says("ACTS, what is SEEN, the image are gone.")
@@ -298,6 +345,7 @@ final class TextEdges extends Edges {
 
     @Says("(One may PAY somebody who is told behind; who is never told: nobody.)")
     static void promise03_theNextOneNeverToldIsNobody() {
+        due("of one person 1 is nobody", told("person 0 0 pays 1;").person(0, 2), NONE);
         NamedCoins x = told("person 0 0;person 0 0 pays 2;");
         due("of two people 2 is nobody", x.person(1, 2), NONE);
         due("nobody is paid", x.count(9), 0);

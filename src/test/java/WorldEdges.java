@@ -98,6 +98,15 @@ final class WorldEdges extends Edges {
         }
     }
 
+    @Says("An object is used for at most 512 calls after it has been made")
+    static void promise05_asManyRefusedActsAsCallsAllow() {
+        NamedCoins x = new NamedCoins();
+        for (int i = 0; i < 511; i++) {
+            x.years(0);
+        }
+        due("the 512th call", x.count(15), 511);
+    }
+
     @Says("NoSuchElementException: no such PERSON (as everywhere), what.")
     static void promise06_noSuchPerson() {
         NamedCoins x = told("person 1 1;".repeat(7));
@@ -152,6 +161,14 @@ final class WorldEdges extends Edges {
         NamedCoins x = withCrumbled();
         due("has", x.person(0, 3), 8);
         due("holds", x.person(0, 4), 1);
+    }
+
+    @Says("5 who PAYS one (bits), 6 whether a beggar (1)")
+    static void promise06_thePaidEighthAndTheBeggarByOne() {
+        NamedCoins x = told("person 0 0 pays 7;".repeat(7) + "beggar 0 0;");
+        due("is paid by", x.person(7, 5), 127);
+        due("a beggar", x.person(7, 6), 1);
+        due("none", x.person(0, 6), 0);
     }
 
     @Says("NoSuchElementException: no such COIN (as everywhere; those that aren't minted yet, too), what.")
