@@ -6,14 +6,20 @@ import java.nio.file.Path;
 import java.util.Arrays;
 import java.util.Comparator;
 
-/** Runs each test of an edge by its name, and looks whether the words that it holds to stand in the document. */
+/**
+ * Runs each test of an edge by its name, and looks whether the words that it holds to stand in the document.
+ * With an argument it lists the tests with these words, too.
+ */
 public final class EdgeTest {
     private static final int PROMISES = 36;
     private static final Class<?>[] ALL = {TextEdges.class, FaultEdges.class, WorldEdges.class, YearEdges.class,
         ActEdges.class, ForesightEdges.class, PayeeEdges.class, SumEdges.class, GuessEdges.class, PlayEdges.class,
         ImageEdges.class};
 
+    private static boolean isListing = false;
+
     public static void main(String[] args) throws IOException, IllegalAccessException {
+        isListing = args.length > 0;
         String document = plain(Files.readString(Path.of("../shared/DOC.md")));
         int[] tests = new int[PROMISES + 1];
         int all = 0;
@@ -42,6 +48,9 @@ public final class EdgeTest {
         Check.due("says what it holds to", says != null, true);
         if (says != null) {
             Check.due("'" + says.value() + "' in the document", document.contains(plain(says.value())), true);
+            if (isListing) {
+                System.out.println(method.getName() + ": " + says.value());
+            }
         }
         int before = Check.done();
         try {

@@ -155,6 +155,18 @@ final class TextEdges extends Edges {
         due("the rule's last number", after(1, whole).coin(0, 0), 42);
     }
 
+    @Says("* any number of times")
+    static void promise03_anyNumberOfTimesUpTo700Bytes() {
+        String[] joins = {" or ", " and ", "+", "-", "*", "/"};
+        int[] named = {1, 1, 99, 0, 1, 1};
+        for (int i = 0; i < joins.length; i++) {
+            String start = "person 0 0;minting 1;names 1";
+            int many = (700 - start.length() - 1) / (joins[i].length() + 1);
+            due(many + " times" + joins[i], after(1, start + (joins[i] + "1").repeat(many) + ";").coin(0, 0), named[i]);
+        }
+        fine("names (1)" + "+(1)".repeat(170) + ";");
+    }
+
     @Says("blanks (32, 10) between them count for nothing")
     static void promise03_blanksAlone() {
         fine(" ");
