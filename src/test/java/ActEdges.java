@@ -280,8 +280,8 @@ final class ActEdges extends Edges {
             x.search(person);
         }
         due("acts", x.count(11), 33);
-        while (x.count(11) > 0) {
-            x.undo();
+        for (int left = 32; left >= 0; left--) {
+            due("left", x.undo(), left);
         }
         Check.same("all as it was", portrait(x), before);
     }

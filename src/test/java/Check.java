@@ -10,7 +10,7 @@ final class Check {
 
     private static int passed = 0;
     private static int failed = 0;
-    private static String heading = "";
+    private static volatile String heading = "";
 
     private Check() {
     }
@@ -18,6 +18,21 @@ final class Check {
     /** From now on what is wrong is told under this heading. */
     static void under(String name) {
         heading = name.isEmpty() ? "" : name + ": ";
+    }
+
+    /** A call that fails to end must not keep the tests waiting: behind so many seconds they have failed. */
+    static void endWithin(int seconds) {
+        Thread watch = new Thread(() -> {
+            try {
+                Thread.sleep(1000L * seconds);
+                System.out.println(heading + "no end behind " + seconds + " seconds");
+                Runtime.getRuntime().halt(1);
+            } catch (InterruptedException e) {
+                Thread.currentThread().interrupt();
+            }
+        });
+        watch.setDaemon(true);
+        watch.start();
     }
 
     static int done() {

@@ -29,6 +29,7 @@ public final class CornerTest {
     private int asked = 0;
 
     public static void main(String[] args) throws ReflectiveOperationException {
+        Check.endWithin(600);
         CornerTest test = new CornerTest();
         for (String world : WORLDS) {
             test.walk(world, 0);

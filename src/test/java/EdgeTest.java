@@ -20,6 +20,7 @@ public final class EdgeTest {
 
     public static void main(String[] args) throws IOException, IllegalAccessException {
         isListing = args.length > 0;
+        Check.endWithin(120);
         String document = plain(Files.readString(Path.of("../shared/DOC.md")));
         int[] tests = new int[PROMISES + 1];
         int all = 0;

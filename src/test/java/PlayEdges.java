@@ -321,7 +321,7 @@ final class PlayEdges extends Edges {
 
     @Says("1 a DRAW of PEOPLE has a STOCKING that is a DRAW of 5")
     static void promise34_stockingsOf0And4() {
-        int none = seedWhere(n -> n[0] % 6 == 1 && n[2] % 5 == 0);
+        int none = seedWhere(n -> n[0] % 6 == 1 && n[2] % 5 == 0 && n[2] % 6 != 0 && n[2] % 4 != 0);
         due("0: true, though there was a stocking", told("person 5 30;minting 1;").ages(none, 1, 2), 50);
         int most = seedWhere(n -> n[0] % 6 == 1 && n[2] % 5 == 4);
         due("4: false", told("person 5 0;minting 1;names 40+stocking;").ages(most, 1, 2), 43);
